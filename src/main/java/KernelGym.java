@@ -166,7 +166,6 @@ public final class KernelGym {
             throw new IllegalStateException("the machine is on");
         }
         requireAssembled();
-        keptCount = 0;
         machine.keys.forget();
         int mended = machine.turnOn(image);
         System.arraycopy(image, 0, imageAtStart, 0, MEMORY_WORDS);
@@ -178,7 +177,6 @@ public final class KernelGym {
         requireOn();
         int steps = machine.core.steps;
         keptCount = 0;
-        machine.keys.forget();
         machine.turnOff();
         return steps;
     }
@@ -526,11 +524,7 @@ public final class KernelGym {
         /** Goes through the source twice; answers 100 times the error, plus the number of its line, or 0. */
         int findError() {
             Arrays.fill(macroBegin, UNSET);
-            Arrays.fill(macroEnd, UNSET);
             Arrays.fill(labelPlace, UNSET);
-            for (int i = 0; i < MACROS; i++) {
-                macroBusy[i] = false;
-            }
             beginTime(false);
             int error = goThrough(0, lineCount, OUTSIDE, 0);
             if (error != 0) {

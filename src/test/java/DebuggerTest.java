@@ -10,6 +10,7 @@ public final class DebuggerTest {
         back();
         backFromEnds();
         mostKept();
+        keptAnew();
         everythingBack();
         backInFileCall();
         changedAt();
@@ -55,6 +56,38 @@ public final class DebuggerTest {
         Check.due("nothing kept", 0, gym.back(1));
         Check.due("forth", 5, gym.step(100));
         Check.due("state", KernelGym.HALTED, gym.state());
+        KernelGym flags = Check.ran(3, 11, 0, 0, 0, 3, 0, 0, 0, 4, 0, 0, 1);
+        flags.back(1);
+        Check.due("the flag zero", 1, flags.flags());
+        flags.back(2);
+        Check.due("not zero", 0, flags.flags());
+        KernelGym first = new KernelGym();
+        first.vector(0, NUMBER, 9);
+        Check.code(first, 3, 0, 0, 0, 3, 0, 0, 0);
+        first.assemble();
+        first.start();
+        first.step(2);
+        Check.due("the word at 0", 0, first.memory(0));
+        first.back(2);
+        Check.due("the word at 0 again", 9, first.memory(0));
+    }
+
+    /** What was kept of steps that are not kept any more must not come back. */
+    private static void keptAnew() {
+        KernelGym gym = Check.started(1, 0, 0, 3, 26, 0, 0, 0, 17, 0, 0, 7, 26, 0, 0, 1, 4, 1, 1, 1, 12, 0, 0, 16);
+        for (int i = 0; i < 4; i++) {
+            gym.step(100);
+        }
+        int sum = gym.sum();
+        int written = gym.written();
+        Check.due("back over 200", 200, gym.back(200));
+        Check.due("no block is taken back", written, gym.written());
+        Check.due("the file stays", 1, gym.size(3));
+        Check.due("the word stays", 7, gym.memory(255));
+        Check.due("the sum anew there", gym.sum(), gym.sumAnew(200));
+        gym.step(100);
+        gym.step(100);
+        Check.due("the sum then", sum, gym.sum());
     }
 
     private static void backFromEnds() {

@@ -14,6 +14,7 @@ public final class FilesTest {
         renameOverOther();
         refusedCalls();
         writesInOrder();
+        resultBehind();
         interruptsWait();
         crashAtEachWrite();
         format();
@@ -186,6 +187,9 @@ public final class FilesTest {
         Check.due("the same word is written, too", 4, blocksWritten(gym, 2, 3, 9, 55));
         Check.due("in the first block", 4, blocksWritten(gym, 2, 3, 0, 56));
         Check.due("its word", 56, gym.wordOf(3, 0));
+        runCalls(gym, 2, 3, 5, 57);
+        Check.due("the sixth word", 57, gym.wordOf(3, 5));
+        Check.due("the second word stays", 101, gym.wordOf(3, 1));
         Check.due("no blocks for a place behind", 0, blocksWritten(gym, 2, 3, 10, 1));
         Check.due("a place behind", 2, gym.register(3));
         Check.due("no blocks to read", 0, blocksWritten(gym, 3, 3, 9, 0));
@@ -312,6 +316,48 @@ public final class FilesTest {
         Check.due("the counter goes on", 16, gym.counter());
         Check.due("the result", 0, gym.register(3));
         Check.due("the log stays", 511, gym.disk(1, 0));
+        fewerBlocks();
+    }
+
+    /** The head of a call with one block behind one with three, which was made, or was crashed and mended. */
+    private static void fewerBlocks() {
+        for (int crash = 0; crash < 2; crash++) {
+            KernelGym gym = new KernelGym();
+            runCalls(gym, 0, 6, 0, 0);
+            gym.crash();
+            gym.clear();
+            call(gym, 1, 6, 700, 0);
+            call(gym, 2, 6, 0, 701);
+            gym.assemble();
+            gym.start();
+            if (crash == 1) {
+                gym.step(4 + 4);
+                gym.crash();
+                Check.due("three blocks and the head", 4, gym.start());
+                Check.due("mending leaves the log", 511, gym.disk(1, 0));
+                Check.due("and puts the head to 0", 0, gym.disk(0, 0) + gym.disk(0, 3) + gym.disk(0, 4));
+            }
+            gym.step(100);
+            gym.back(2);
+            Check.due("the call of one block", KernelGym.RUNS, gym.state());
+            while (gym.disk(0, 0) == 0 && gym.back(1) == 1) {
+                Check.due("no blocks of the head", 0, gym.disk(0, 1));
+            }
+            int[] due = {1, 8, 0, 0, 1 + 8 + 701 + (crash == 1 ? 700 : 0), 0, 0, 0};
+            for (int place = 0; place < 8; place++) {
+                Check.due("the head of one block at " + place, due[place], gym.disk(0, place));
+            }
+        }
+    }
+
+    private static void resultBehind() {
+        KernelGym gym = Check.ran(3, 1, 0, 0, 1, 1, 3, 3, 5, 26, 0, 0, 0);
+        Check.due("three steps of writing", 3, gym.step(3));
+        Check.due("register 3 stays up to the last write", 5, gym.register(3));
+        Check.due("and the counter", 12, gym.counter());
+        gym.step(1);
+        Check.due("register 3 then", 0, gym.register(3));
+        Check.due("and the counter then", 14, gym.counter());
     }
 
     private static void checkHead(KernelGym gym) {

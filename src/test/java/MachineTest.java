@@ -299,8 +299,10 @@ public final class MachineTest {
         KernelGym none = Check.ran(3, 23, 0, 0, 3, 23, 0, 0, 0, 12, 0, 0, 12);
         none.step(9);
         Check.due("an interval of 0", 0, none.flags());
-        KernelGym anew = Check.ran(3, 23, 0, 0, 4, 1, 0, 0, 0, 23, 0, 0, 4);
+        KernelGym anew = Check.ran(5, 23, 0, 0, 4, 1, 0, 0, 0, 23, 0, 0, 4, 1, 0, 0, 0, 1, 0, 0, 0, 1, 0, 0, 0);
         Check.due("the time is 0 by setting", 0, anew.flags());
+        anew.step(1);
+        Check.due("the timer then", 8, anew.flags());
         KernelGym halted = Check.ran(2, 23, 0, 0, 2, 0, 0, 0, 0);
         Check.due("time passes behind the step that halts", 8, halted.flags());
         KernelGym fault = Check.ran(2, 23, 0, 0, 2, 18, 0, 0, 0);
@@ -472,6 +474,10 @@ public final class MachineTest {
         Check.outside(gym, "sumAnew -1", () -> gym.sumAnew(-1));
         Check.outside(gym, "sumAnew 4", () -> gym.sumAnew(4));
         Check.due("step 100", 100, gym.step(100));
+        KernelGym far = Check.started(1, 0, 0, 0, 12, 0, 0, 255);
+        Check.due("runTo 255", 2, far.runTo(255, 100));
+        KernelGym near = Check.started(1, 0, 0, 0, 12, 0, 0, 0);
+        Check.due("runTo 0", 2, near.runTo(0, 100));
         Check.due("register 3", 0, gym.register(3));
         Check.due("memory 255", 0, gym.memory(255));
     }
@@ -498,6 +504,10 @@ public final class MachineTest {
 
     private static void sums() {
         Check.due("the sum while OFF", sumOf(new KernelGym(), 0, 0), new KernelGym().sum());
+        KernelGym plain = Check.ran(4, 25, 0, 0, 8, 11, 0, 0, 0, 17, 0, 0, 5, 1, 3, 3, 65535);
+        Check.due("the sum without a timer", sumOf(plain, 0, 0), plain.sum());
+        plain.crash();
+        Check.due("no zero flag while OFF", 0, plain.flags());
         KernelGym gym = Check.ran(7, 23, 0, 0, 9, 1, 0, 0, 3, 25, 0, 0, 0, 25, 0, 0, 8, 19, 0, 0, 0, 26, 0, 0, 0,
             18, 0, 0, 0);
         Check.due("the sum", sumOf(gym, 9, 7), gym.sum());

@@ -369,8 +369,12 @@ public final class SourceTest {
             gym.endMacro();
         }
         gym.use(4, NUMBER, 100, NUMBER, 0);
-        Check.due("five macros deep", 1, gym.assemble());
+        gym.word(LABEL, 0);
+        gym.section(1);
+        gym.label(0);
+        Check.due("five macros deep", 2, gym.assemble());
         Check.due("an argument handed on", 141, gym.image(8));
+        Check.due("the words of five macros count", 10, gym.image(9));
     }
 
     private static void labelMissing() {
@@ -543,6 +547,7 @@ public final class SourceTest {
         for (int i = 0; i < due.length; i++) {
             Check.due("image of own labels " + i, due[i], gym.image(8 + i));
         }
+        manyUses();
         KernelGym outer = new KernelGym();
         outer.macro(0);
         outer.word(LABEL, 17);
@@ -570,6 +575,33 @@ public final class SourceTest {
         outer.endMacro();
         outer.use(1, NUMBER, 0, NUMBER, 0);
         Check.due("nor one of a macro that it uses", 605, outer.error());
+    }
+
+    /** Each use has its own four labels, at other places than those of other uses and those of the source. */
+    private static void manyUses() {
+        KernelGym gym = new KernelGym();
+        for (int label = 0; label < 20; label++) {
+            gym.label(label);
+        }
+        gym.macro(0);
+        for (int label = 16; label < 20; label++) {
+            gym.word(LABEL, label);
+        }
+        for (int label = 16; label < 20; label++) {
+            gym.label(label);
+            gym.word(LABEL, 35 - label);
+        }
+        gym.endMacro();
+        for (int i = 0; i < 20; i++) {
+            gym.use(0, NUMBER, 0, NUMBER, 0);
+        }
+        Check.due("words of many uses", 160, gym.assemble());
+        for (int i = 0; i < 20; i++) {
+            for (int label = 0; label < 4; label++) {
+                Check.due("a label of the use " + i, 12 + 8 * i + label, gym.image(8 + 8 * i + label));
+                Check.due("a label ahead of it " + i, 15 + 8 * i - label, gym.image(12 + 8 * i + label));
+            }
+        }
     }
 
     private static void assemble() {
