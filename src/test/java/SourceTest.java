@@ -133,6 +133,15 @@ public final class SourceTest {
         Check.due("assemble 100 lines", 0, gym.assemble());
         Check.due("clear of 100 lines", 100, gym.clear());
         Check.due("the next line", 1, gym.section(0));
+        gym.macro(0);
+        gym.word(SECOND, 0);
+        gym.endMacro();
+        for (int i = 5; i < 100; i++) {
+            gym.section(0);
+        }
+        Check.due("the 100th line uses a macro", 100, gym.use(0, NUMBER, 1, NUMBER, 2));
+        gym.assemble();
+        Check.due("its second operand", 2, gym.image(8));
     }
 
     /** A macro of 39 lines that is used 7 times: 1 + 7 * 40 = 281 lines are gone through. */
