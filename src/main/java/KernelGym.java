@@ -798,6 +798,9 @@ public final class KernelGym {
     private static final class Disk {
         static final int HEAD = 0, LOG = 1, MAP = 4, DIRECTORY = 5, DATA = 8;
         static final int CHECK = 4;
+        /** The places of the map's and the directory's first words, among all words of the disk. */
+        static final int MAP_BEGIN = MAP * BLOCK_WORDS, DIRECTORY_BEGIN = DIRECTORY * BLOCK_WORDS;
+        static final int MAP_BITS = 16;
         static final int ENTRIES = 6, ENTRY_WORDS = 4;
         static final int NAME = 0, SIZE = 1, FIRST_BLOCK = 2, SECOND_BLOCK = 3;
         static final int MOST_IN_FILE = 2 * BLOCK_WORDS;
@@ -807,12 +810,12 @@ public final class KernelGym {
         int written;
 
         Disk() {
-            words[MAP * BLOCK_WORDS] = USED_ALWAYS;
+            words[MAP_BEGIN] = USED_ALWAYS;
         }
 
         void erase() {
             Arrays.fill(words, 0);
-            words[MAP * BLOCK_WORDS] = USED_ALWAYS;
+            words[MAP_BEGIN] = USED_ALWAYS;
             written = 0;
         }
 
@@ -867,16 +870,9 @@ public final class KernelGym {
             return check & HIGHEST_WORD;
         }
 
-        static int blockOfEntry(int entry) {
-            return DIRECTORY + entry / 2;
-        }
-
-        static int placeOfEntry(int entry) {
-            return (entry % 2) * ENTRY_WORDS;
-        }
-
         int entryWord(int entry, int which) {
-            return wordAt(blockOfEntry(entry), placeOfEntry(entry) + which);
+            boolean there = entry >= 0 && entry < ENTRIES && which >= 0 && which < ENTRY_WORDS;
+            return there ? words[DIRECTORY_BEGIN + entry * ENTRY_WORDS + which] : 0;
         }
 
         /** Answers the first entry with this name, the first free one for 0, or -1. */
@@ -899,16 +895,17 @@ public final class KernelGym {
             return files;
         }
 
-        int blockOfPlace(int entry, int place) {
-            return entryWord(entry, place < BLOCK_WORDS ? FIRST_BLOCK : SECOND_BLOCK);
+        /** Which word of an entry tells the block that this place of the file is in. */
+        static int whichBlock(int place) {
+            return place < BLOCK_WORDS ? FIRST_BLOCK : SECOND_BLOCK;
         }
 
         int fileWord(int entry, int place) {
-            return wordAt(blockOfPlace(entry, place), place % BLOCK_WORDS);
+            return wordAt(entryWord(entry, whichBlock(place)), place % BLOCK_WORDS);
         }
 
         private long usedBlocks() {
-            return wordAt(MAP, 0) | ((long) wordAt(MAP, 1) << 16);
+            return words[MAP_BEGIN] | ((long) words[MAP_BEGIN + 1] << MAP_BITS);
         }
 
         int firstFreeBlock() {
@@ -967,40 +964,22 @@ public final class KernelGym {
 
     /** Finds the result of a file call, and what the blocks that it changes will be. */
     private static final class Clerk {
+        static final int DONE = 0;
         private static final int MAKE = 0, APPEND = 1, REPLACE = 2, READ = 3, ASK_SIZE = 4, REMOVE = 5, RENAME = 6;
-        private static final int DONE = 0, NO_FILE = 1, NO_PLACE = 2, NO_BLOCK = 3, NO_CALL = 9;
+        private static final int NO_FILE = 1, NO_PLACE = 2, NO_BLOCK = 3, NO_CALL = 9;
 
         private final int[] after = new int[DISK_WORDS];
         private final boolean[] changed = new boolean[BLOCKS];
 
-        /** Answers the result; if the call changes blocks, they stand in core.call then. */
-        int find(int call, Core core, Disk disk) {
+        /** The entry is that of the file with the name in register 0, below 0 if there is none. */
+        int resultOf(int call, int entry, int[] registers, Disk disk) {
             if (call < MAKE || call > RENAME) {
                 return NO_CALL;
             }
-            int entry = core.registers[0] == 0 ? -1 : disk.entryOf(core.registers[0]);
-            int refused = refuse(call, entry, core, disk);
-            if (refused != DONE) {
-                return refused;
-            }
-            System.arraycopy(disk.words, 0, after, 0, DISK_WORDS);
-            for (int block = 0; block < BLOCKS; block++) {
-                changed[block] = false;
-            }
-            carryOut(call, entry, core, disk);
-            for (int block = 0; block < BLOCKS; block++) {
-                if (changed[block]) {
-                    core.call.addBlock(block, after, block * BLOCK_WORDS);
-                }
-            }
-            return DONE;
-        }
-
-        private static int refuse(int call, int entry, Core core, Disk disk) {
             if (call == MAKE) {
-                return entry >= 0 || core.registers[0] == 0 ? NO_FILE : disk.entryOf(0) < 0 ? NO_PLACE : DONE;
+                return entry >= 0 || registers[0] == 0 ? NO_FILE : disk.entryOf(0) < 0 ? NO_PLACE : DONE;
             }
-            if (entry < 0 || (call == RENAME && core.registers[1] == 0)) {
+            if (entry < 0 || (call == RENAME && registers[1] == 0)) {
                 return NO_FILE;
             }
             int size = disk.entryWord(entry, Disk.SIZE);
@@ -1008,24 +987,26 @@ public final class KernelGym {
                 return size >= Disk.MOST_IN_FILE ? NO_PLACE
                     : needsBlock(size) && disk.firstFreeBlock() < 0 ? NO_BLOCK : DONE;
             }
-            return (call == REPLACE || call == READ) && core.registers[1] >= size ? NO_PLACE : DONE;
+            return (call == REPLACE || call == READ) && registers[1] >= size ? NO_PLACE : DONE;
         }
 
         private static boolean needsBlock(int size) {
             return size % BLOCK_WORDS == 0;
         }
 
-        private void carryOut(int call, int entry, Core core, Disk disk) {
+        /** Makes a call whose result is DONE; if it changes blocks, they stand in core.call then. */
+        void carryOut(int call, int entry, Core core, Disk disk) {
             int[] registers = core.registers;
+            begin(disk);
             switch (call) {
                 case MAKE:
                     putInEntry(disk.entryOf(0), Disk.NAME, registers[0]);
                     break;
                 case APPEND:
-                    append(entry, registers[1], disk);
+                    append(entry, registers[1], disk.firstFreeBlock(), disk);
                     break;
                 case REPLACE:
-                    put(disk.blockOfPlace(entry, registers[1]), registers[1] % BLOCK_WORDS, registers[2]);
+                    put(disk.entryWord(entry, Disk.whichBlock(registers[1])), registers[1] % BLOCK_WORDS, registers[2]);
                     break;
                 case READ:
                     registers[2] = disk.fileWord(entry, registers[1]);
@@ -1037,17 +1018,39 @@ public final class KernelGym {
                     remove(entry, disk);
                     break;
                 default:
-                    rename(entry, registers[1], disk);
+                    int other = disk.entryOf(registers[1]);
+                    if (other >= 0 && other != entry) {
+                        remove(other, disk);
+                    }
+                    if (other != entry) {
+                        putInEntry(entry, Disk.NAME, registers[1]);
+                    }
+            }
+            handOver(core.call);
+        }
+
+        private void begin(Disk disk) {
+            System.arraycopy(disk.words, 0, after, 0, DISK_WORDS);
+            for (int block = 0; block < BLOCKS; block++) {
+                changed[block] = false;
             }
         }
 
-        private void append(int entry, int word, Disk disk) {
+        private void handOver(FileCall call) {
+            for (int block = 0; block < BLOCKS; block++) {
+                if (changed[block]) {
+                    call.addBlock(block, after, block * BLOCK_WORDS);
+                }
+            }
+        }
+
+        private void append(int entry, int word, int freeBlock, Disk disk) {
             int size = disk.entryWord(entry, Disk.SIZE);
-            int block = disk.blockOfPlace(entry, size);
+            int which = Disk.whichBlock(size);
+            int block = needsBlock(size) ? freeBlock : disk.entryWord(entry, which);
             if (needsBlock(size)) {
-                block = disk.firstFreeBlock();
                 setUsed(block, true);
-                putInEntry(entry, size < BLOCK_WORDS ? Disk.FIRST_BLOCK : Disk.SECOND_BLOCK, block);
+                putInEntry(entry, which, block);
                 for (int place = 0; place < BLOCK_WORDS; place++) {
                     put(block, place, 0);
                 }
@@ -1068,26 +1071,21 @@ public final class KernelGym {
             }
         }
 
-        private void rename(int entry, int name, Disk disk) {
-            int other = disk.entryOf(name);
-            if (other == entry) {
-                return;
-            }
-            if (other >= 0) {
-                remove(other, disk);
-            }
-            putInEntry(entry, Disk.NAME, name);
-        }
-
         private void setUsed(int block, boolean used) {
-            int place = block < 16 ? 0 : 1;
-            int bit = 1 << (block % 16);
-            int word = after[Disk.MAP * BLOCK_WORDS + place];
-            put(Disk.MAP, place, used ? word | bit : word & ~bit);
+            if (block >= 0 && block < BLOCKS) {
+                int at = Disk.MAP_BEGIN + block / Disk.MAP_BITS;
+                int bit = 1 << (block % Disk.MAP_BITS);
+                after[at] = used ? after[at] | bit : after[at] & ~bit;
+                changed[Disk.MAP] = true;
+            }
         }
 
         private void putInEntry(int entry, int which, int word) {
-            put(Disk.blockOfEntry(entry), Disk.placeOfEntry(entry) + which, word);
+            if (entry >= 0 && entry < Disk.ENTRIES && which >= 0 && which < Disk.ENTRY_WORDS) {
+                int at = Disk.DIRECTORY_BEGIN + entry * Disk.ENTRY_WORDS + which;
+                after[at] = word;
+                changed[at / BLOCK_WORDS] = true;
+            }
         }
 
         private void put(int block, int place, int word) {
@@ -1427,6 +1425,8 @@ public final class KernelGym {
             int y = d == s ? x : (core.registers[s] + x) & HIGHEST_WORD;
             if (operation > HIGHEST_OPERATION) {
                 fail(BAD_OPERATION);
+            } else if (operation == CALL_FILE) {
+                callFile(y);
             } else if (operation >= INTERRUPTS_ON) {
                 control(operation, d, y);
             } else if (operation >= CALL) {
@@ -1553,11 +1553,8 @@ public final class KernelGym {
                     setRegister(d, nextKey());
                     goOn();
                     break;
-                case WRITE_TAPE:
-                    writeTape(y);
-                    break;
                 default:
-                    callFile(y);
+                    writeTape(y);
             }
         }
 
@@ -1590,7 +1587,11 @@ public final class KernelGym {
         }
 
         private void callFile(int number) {
-            int result = clerk.find(number, core, disk);
+            int entry = core.registers[0] == 0 ? -1 : disk.entryOf(core.registers[0]);
+            int result = clerk.resultOf(number, entry, core.registers, disk);
+            if (result == Clerk.DONE) {
+                clerk.carryOut(number, entry, core, disk);
+            }
             if (core.call.left() == 0) {
                 core.registers[3] = result;
                 goOn();

@@ -1,5 +1,7 @@
 import java.util.ArrayList;
 import java.util.List;
+import java.util.Map;
+import java.util.TreeMap;
 
 /** Counts the answers that are due and those that are not; what the tests of the project share. */
 final class Check {
@@ -10,17 +12,46 @@ final class Check {
 
     private static int passed;
     private static int failed;
+    private static String about = "";
+    private static final Map<String, Integer> ANSWERS = new TreeMap<>();
 
     private Check() {
     }
 
-    static void due(String what, long want, long got) {
-        if (got == want) {
+    /** The answers that follow show what this promise says. */
+    static void promise(int number) {
+        about("Promise " + number);
+    }
+
+    /** The answers that follow show what the document says under this head. */
+    static void about(String head) {
+        about = head;
+        ANSWERS.putIfAbsent(head, 0);
+    }
+
+    /** Each promise from the first to the last one has answers of its own. */
+    static void namesPromises(int first, int last) {
+        about = "";
+        for (int number = first; number <= last; number++) {
+            String promise = "Promise " + number;
+            holds("there are answers for " + promise, ANSWERS.getOrDefault(promise, 0) > 0);
+        }
+    }
+
+    private static void count(boolean asDue, String message) {
+        if (asDue) {
             passed++;
         } else {
             failed++;
-            System.out.println(what + " answered " + got + ", due is " + want);
+            System.out.println(about.isEmpty() ? message : about + ": " + message);
         }
+        if (!about.isEmpty()) {
+            ANSWERS.merge(about, 1, Integer::sum);
+        }
+    }
+
+    static void due(String what, long want, long got) {
+        count(got == want, got == want ? "" : what + " answered " + got + ", due is " + want);
     }
 
     static void holds(String what, boolean got) {
@@ -28,12 +59,8 @@ final class Check {
     }
 
     static void same(String what, Object want, Object got) {
-        if (want.equals(got)) {
-            passed++;
-        } else {
-            failed++;
-            System.out.println(what + " was " + got + ", due is " + want);
-        }
+        boolean asDue = want.equals(got);
+        count(asDue, asDue ? "" : what + " was " + got + ", due is " + want);
     }
 
     /** The call throws just this exception, and nothing that can be asked of the object changes. */

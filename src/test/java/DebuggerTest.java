@@ -157,27 +157,34 @@ public final class DebuggerTest {
     }
 
     private static void everythingBack() {
-        KernelGym gym = busy();
-        List<List<Long>> states = new ArrayList<>();
-        for (int i = 0; i < 150; i++) {
-            if (i % 40 == 3) {
-                gym.press(i);
-            }
-            states.add(all(gym));
-            Check.due("a step", 1, gym.step(1));
-        }
-        List<Long> end = all(gym);
         for (int i = 149; i >= 0; i--) {
-            Check.due("back", 1, gym.back(1));
+            KernelGym gym = busyWithKeys(150);
+            Check.due("back", 150 - i, gym.back(150 - i));
             // A key that was told for this number of steps has come by then.
-            Check.same("the machine ahead of step " + i, states.get(i), all(gym));
+            Check.same("the machine ahead of step " + i, all(busyWithKeys(i)), all(gym));
         }
+        KernelGym gym = busyWithKeys(150);
+        gym.back(150);
         gym.step(100);
         gym.step(50);
-        Check.same("the machine behind the same steps", end, all(gym));
+        Check.same("the machine behind the same steps", all(busyWithKeys(150)), all(gym));
         gym.back(77);
         gym.step(77);
-        Check.same("the machine back and forth", end, all(gym));
+        Check.same("the machine back and forth", all(busyWithKeys(150)), all(gym));
+    }
+
+    /** The busy machine behind so many steps, with a key behind each 40 of them, from the third one on. */
+    private static KernelGym busyWithKeys(int steps) {
+        KernelGym gym = busy();
+        for (int i = 0; i <= steps; i++) {
+            if (i % 40 == 3 && i < 150) {
+                gym.press(i);
+            }
+            if (i < steps) {
+                Check.due("a step", 1, gym.step(1));
+            }
+        }
+        return gym;
     }
 
     private static void backInFileCall() {

@@ -55,19 +55,19 @@ public final class FilesTest {
     }
 
     private static void rangesOfCalls() {
-        KernelGym gym = new KernelGym();
         for (int bad : new int[] {-1, 32, Integer.MAX_VALUE}) {
-            Check.outside(gym, "disk block " + bad, () -> gym.disk(bad, 0));
+            Edges.outside("disk block " + bad, KernelGym::new, gym -> gym.disk(bad, 0));
         }
         for (int bad : new int[] {-1, 8, Integer.MIN_VALUE}) {
-            Check.outside(gym, "disk place " + bad, () -> gym.disk(0, bad));
+            Edges.outside("disk place " + bad, KernelGym::new, gym -> gym.disk(0, bad));
         }
         for (int bad : new int[] {-1, 0, 65536}) {
-            Check.outside(gym, "size of name " + bad, () -> gym.size(bad));
-            Check.outside(gym, "wordOf name " + bad, () -> gym.wordOf(bad, -1));
+            Edges.outside("size of name " + bad, KernelGym::new, gym -> gym.size(bad));
+            Edges.outside("wordOf name " + bad, KernelGym::new, gym -> gym.wordOf(bad, -1));
         }
-        Check.refused(gym, "size of no file", java.util.NoSuchElementException.class, () -> gym.size(65535));
-        Check.refused(gym, "wordOf no file", java.util.NoSuchElementException.class, () -> gym.wordOf(1, -1));
+        Edges.missing("size of no file", KernelGym::new, gym -> gym.size(65535));
+        Edges.missing("wordOf no file", KernelGym::new, gym -> gym.wordOf(1, -1));
+        KernelGym gym = new KernelGym();
         runCalls(gym, 0, 65535, 0, 0);
         Check.due("size of an empty file", 0, gym.size(65535));
         Class<? extends RuntimeException> outside = IndexOutOfBoundsException.class;
@@ -130,9 +130,13 @@ public final class FilesTest {
     }
 
     private static void fill(KernelGym gym, int name, int words) {
+        int[] calls = new int[4 * words];
         for (int i = 0; i < words; i++) {
-            runCalls(gym, 1, name, 100 + i, 0);
+            calls[4 * i] = 1;
+            calls[4 * i + 1] = name;
+            calls[4 * i + 2] = 100 + i;
         }
+        runCalls(gym, calls);
     }
 
     private static void appendSecondBlock() {
@@ -413,7 +417,6 @@ public final class FilesTest {
 
     private static void crashBehind(int[] row, int steps, int writes) {
         KernelGym gym = prepared(row);
-        String before = dataOf(gym);
         int blocks = (writes - 2) / 2;
         gym.step(steps);
         Check.due("crash", steps, gym.crash());
@@ -426,7 +429,7 @@ public final class FilesTest {
         Check.due("written by mending, " + what, written + (open ? blocks + 1 : 0), gym.written());
         Check.holds("whole, " + what, gym.isWhole());
         if (!logged) {
-            Check.same("the disk is as it was, " + what, before, dataOf(gym));
+            Check.same("the disk is as it was, " + what, dataOf(prepared(row)), dataOf(gym));
         } else {
             KernelGym done = prepared(row);
             done.step(4 + writes);

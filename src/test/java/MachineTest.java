@@ -4,6 +4,7 @@ public final class MachineTest {
 
     public static void main(String[] args) {
         whileOff();
+        refusedWhileOff();
         started();
         moves();
         arithmetic();
@@ -46,21 +47,24 @@ public final class MachineTest {
         Check.due("memory", 0, gym.memory(8));
         Check.due("changedAt", -1, gym.changedAt(255));
         Check.due("sum of an empty machine", new KernelGym().sum(), gym.sum());
-        Check.untimely(gym, "crash while OFF", () -> gym.crash());
-        Check.untimely(gym, "step while OFF", () -> gym.step(1));
-        Check.untimely(gym, "runTo while OFF", () -> gym.runTo(8, 1));
-        Check.untimely(gym, "back while OFF", () -> gym.back(1));
-        Check.untimely(gym, "press while OFF", () -> gym.press(1));
-        Check.untimely(gym, "sumAnew while OFF", () -> gym.sumAnew(0));
-        Check.untimely(gym, "sumAnew out of range while OFF", () -> gym.sumAnew(-1));
-        Check.outside(gym, "step of no steps while OFF", () -> gym.step(0));
-        Check.outside(gym, "runTo of no address while OFF", () -> gym.runTo(-1, 1));
-        Check.outside(gym, "back of no steps while OFF", () -> gym.back(0));
-        Check.outside(gym, "press of no key while OFF", () -> gym.press(-1));
-        Check.refused(gym, "tapeAt while OFF", IndexOutOfBoundsException.class, () -> gym.tapeAt(0));
         Check.due("start again", 0, gym.start());
         Check.due("no time of the timer", 5, gym.step(5));
         Check.due("register then", 65535, gym.register(0));
+    }
+
+    private static void refusedWhileOff() {
+        Edges.untimely("crash while OFF", Edges::crashed, gym -> gym.crash());
+        Edges.untimely("step while OFF", Edges::crashed, gym -> gym.step(1));
+        Edges.untimely("runTo while OFF", Edges::crashed, gym -> gym.runTo(8, 1));
+        Edges.untimely("back while OFF", Edges::crashed, gym -> gym.back(1));
+        Edges.untimely("press while OFF", Edges::crashed, gym -> gym.press(1));
+        Edges.untimely("sumAnew while OFF", Edges::crashed, gym -> gym.sumAnew(0));
+        Edges.untimely("sumAnew out of range while OFF", Edges::crashed, gym -> gym.sumAnew(-1));
+        Edges.outside("step of no steps while OFF", Edges::crashed, gym -> gym.step(0));
+        Edges.outside("runTo of no address while OFF", Edges::crashed, gym -> gym.runTo(-1, 1));
+        Edges.outside("back of no steps while OFF", Edges::crashed, gym -> gym.back(0));
+        Edges.outside("press of no key while OFF", Edges::crashed, gym -> gym.press(-1));
+        Edges.beyond("tapeAt while OFF", Edges::crashed, gym -> gym.tapeAt(0));
     }
 
     private static void started() {
@@ -452,27 +456,28 @@ public final class MachineTest {
     }
 
     private static void rangesOfCalls() {
-        KernelGym gym = Check.ran(3, 1, 0, 0, 5, 25, 0, 0, 1, 12, 0, 0, 8);
+        Edges.Maker runs = () -> Check.ran(3, 1, 0, 0, 5, 25, 0, 0, 1, 12, 0, 0, 8);
         for (int bad : new int[] {-1, 0, 101, Integer.MIN_VALUE, Integer.MAX_VALUE}) {
-            Check.outside(gym, "step " + bad, () -> gym.step(bad));
-            Check.outside(gym, "runTo with steps " + bad, () -> gym.runTo(8, bad));
+            Edges.outside("step " + bad, runs, gym -> gym.step(bad));
+            Edges.outside("runTo with steps " + bad, runs, gym -> gym.runTo(8, bad));
         }
         for (int bad : new int[] {-1, 256, Integer.MAX_VALUE}) {
-            Check.outside(gym, "runTo " + bad, () -> gym.runTo(bad, 1));
-            Check.outside(gym, "memory " + bad, () -> gym.memory(bad));
-            Check.outside(gym, "changedAt " + bad, () -> gym.changedAt(bad));
+            Edges.outside("runTo " + bad, runs, gym -> gym.runTo(bad, 1));
+            Edges.outside("memory " + bad, runs, gym -> gym.memory(bad));
+            Edges.outside("changedAt " + bad, runs, gym -> gym.changedAt(bad));
         }
         for (int bad : new int[] {-1, 0, 201}) {
-            Check.outside(gym, "back " + bad, () -> gym.back(bad));
+            Edges.outside("back " + bad, runs, gym -> gym.back(bad));
         }
         for (int bad : new int[] {-1, 4}) {
-            Check.outside(gym, "register " + bad, () -> gym.register(bad));
+            Edges.outside("register " + bad, runs, gym -> gym.register(bad));
         }
         for (int bad : new int[] {-1, 65536}) {
-            Check.outside(gym, "press " + bad, () -> gym.press(bad));
+            Edges.outside("press " + bad, runs, gym -> gym.press(bad));
         }
-        Check.outside(gym, "sumAnew -1", () -> gym.sumAnew(-1));
-        Check.outside(gym, "sumAnew 4", () -> gym.sumAnew(4));
+        Edges.outside("sumAnew -1", runs, gym -> gym.sumAnew(-1));
+        Edges.outside("sumAnew 4", runs, gym -> gym.sumAnew(4));
+        KernelGym gym = runs.make();
         Check.due("step 100", 100, gym.step(100));
         KernelGym far = Check.started(1, 0, 0, 0, 12, 0, 0, 255);
         Check.due("runTo 255", 2, far.runTo(255, 100));
@@ -482,39 +487,32 @@ public final class MachineTest {
         Check.due("memory 255", 0, gym.memory(255));
     }
 
-    private static long sumOf(KernelGym gym, int interval, int time) {
-        long sum = 7;
-        long[] words = {gym.state(), gym.fault(), gym.steps(), gym.counter(), gym.stack(), gym.flags(), interval,
-            time, gym.register(0), gym.register(1), gym.register(2), gym.register(3), gym.writesLeft()};
-        for (long word : words) {
-            sum = (31 * sum + word) % 1000003;
-        }
-        for (int i = 0; i < 256; i++) {
-            sum = (31 * sum + gym.memory(i)) % 1000003;
-        }
-        for (int i = 0; i < 256; i++) {
-            sum = (31 * sum + gym.disk(i / 8, i % 8)) % 1000003;
-        }
-        sum = (31 * sum + gym.tape()) % 1000003;
-        for (int i = 0; i < gym.tape(); i++) {
-            sum = (31 * sum + gym.tapeAt(i)) % 1000003;
-        }
-        return sum;
+    private static void sums() {
+        Check.due("the sum while OFF", Edges.sumOf(KernelGym::new, 0, 0), new KernelGym().sum());
+        Edges.Maker plain = () -> Check.ran(4, 25, 0, 0, 8, 11, 0, 0, 0, 17, 0, 0, 5, 1, 3, 3, 65535);
+        Check.due("the sum without a timer", Edges.sumOf(plain, 0, 0), plain.make().sum());
+        KernelGym off = plain.make();
+        off.crash();
+        Check.due("no zero flag while OFF", 0, off.flags());
+        Check.due("the sum", Edges.sumOf(MachineTest::timed, 9, 7), timed().sum());
+        Check.due("the sum with a key", Edges.sumOf(MachineTest::timedWithKey, 9, 7), timedWithKey().sum());
+        Check.due("the sum in a file call", Edges.sumOf(MachineTest::timedInCall, 9, 1), timedInCall().sum());
+        Check.due("the timer in a file call", 4 + 8 + 16, timedInCall().flags());
     }
 
-    private static void sums() {
-        Check.due("the sum while OFF", sumOf(new KernelGym(), 0, 0), new KernelGym().sum());
-        KernelGym plain = Check.ran(4, 25, 0, 0, 8, 11, 0, 0, 0, 17, 0, 0, 5, 1, 3, 3, 65535);
-        Check.due("the sum without a timer", sumOf(plain, 0, 0), plain.sum());
-        plain.crash();
-        Check.due("no zero flag while OFF", 0, plain.flags());
-        KernelGym gym = Check.ran(7, 23, 0, 0, 9, 1, 0, 0, 3, 25, 0, 0, 0, 25, 0, 0, 8, 19, 0, 0, 0, 26, 0, 0, 0,
-            18, 0, 0, 0);
-        Check.due("the sum", sumOf(gym, 9, 7), gym.sum());
+    private static KernelGym timed() {
+        return Check.ran(7, 23, 0, 0, 9, 1, 0, 0, 3, 25, 0, 0, 0, 25, 0, 0, 8, 19, 0, 0, 0, 26, 0, 0, 0, 18, 0, 0, 0);
+    }
+
+    private static KernelGym timedWithKey() {
+        KernelGym gym = timed();
         gym.press(5);
-        Check.due("the sum with a key", sumOf(gym, 9, 7), gym.sum());
+        return gym;
+    }
+
+    private static KernelGym timedInCall() {
+        KernelGym gym = timedWithKey();
         gym.step(3);
-        Check.due("the sum in a file call", sumOf(gym, 9, 1), gym.sum());
-        Check.due("the timer in a file call", 4 + 8 + 16, gym.flags());
+        return gym;
     }
 }

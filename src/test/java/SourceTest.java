@@ -64,48 +64,52 @@ public final class SourceTest {
     }
 
     private static void rangesOfLines() {
-        KernelGym gym = new KernelGym();
-        gym.word(NUMBER, 5);
+        Edges.Maker line = SourceTest::oneLine;
         for (int bad : new int[] {-1, 2, Integer.MIN_VALUE, Integer.MAX_VALUE}) {
-            Check.outside(gym, "section " + bad, () -> gym.section(bad));
-            Check.outside(gym, "vector at " + bad, () -> gym.vector(bad, NUMBER, 0));
+            Edges.outside("section " + bad, line, gym -> gym.section(bad));
+            Edges.outside("vector at " + bad, line, gym -> gym.vector(bad, NUMBER, 0));
         }
         for (int bad : new int[] {-1, 20, Integer.MIN_VALUE, Integer.MAX_VALUE}) {
-            Check.outside(gym, "label " + bad, () -> gym.label(bad));
-            Check.outside(gym, "code with label " + bad, () -> gym.code(0, 0, 0, LABEL, bad));
-            Check.outside(gym, "word with label " + bad, () -> gym.word(LABEL, bad));
-            Check.outside(gym, "vector with label " + bad, () -> gym.vector(0, LABEL, bad));
-            Check.outside(gym, "use with label " + bad, () -> gym.use(0, LABEL, bad, NUMBER, 0));
-            Check.outside(gym, "use with second label " + bad, () -> gym.use(0, NUMBER, 0, LABEL, bad));
+            Edges.outside("label " + bad, line, gym -> gym.label(bad));
+            Edges.outside("code with label " + bad, line, gym -> gym.code(0, 0, 0, LABEL, bad));
+            Edges.outside("word with label " + bad, line, gym -> gym.word(LABEL, bad));
+            Edges.outside("vector with label " + bad, line, gym -> gym.vector(0, LABEL, bad));
+            Edges.outside("use with label " + bad, line, gym -> gym.use(0, LABEL, bad, NUMBER, 0));
+            Edges.outside("use with second label " + bad, line, gym -> gym.use(0, NUMBER, 0, LABEL, bad));
         }
         for (int bad : new int[] {-1, 27}) {
-            Check.outside(gym, "code " + bad, () -> gym.code(bad, 0, 0, NUMBER, 0));
+            Edges.outside("code " + bad, line, gym -> gym.code(bad, 0, 0, NUMBER, 0));
         }
         for (int bad : new int[] {-1, 4, Integer.MAX_VALUE}) {
-            Check.outside(gym, "d " + bad, () -> gym.code(0, bad, 0, NUMBER, 0));
-            Check.outside(gym, "s " + bad, () -> gym.code(0, 0, bad, NUMBER, 0));
-            Check.outside(gym, "code of kind " + bad, () -> gym.code(0, 0, 0, bad, 0));
-            Check.outside(gym, "word of kind " + bad, () -> gym.word(bad, 0));
-            Check.outside(gym, "vector of kind " + bad, () -> gym.vector(0, bad, 0));
-            Check.outside(gym, "use of kind " + bad, () -> gym.use(0, bad, 0, NUMBER, 0));
-            Check.outside(gym, "use of second kind " + bad, () -> gym.use(0, NUMBER, 0, bad, 0));
+            Edges.outside("d " + bad, line, gym -> gym.code(0, bad, 0, NUMBER, 0));
+            Edges.outside("s " + bad, line, gym -> gym.code(0, 0, bad, NUMBER, 0));
+            Edges.outside("code of kind " + bad, line, gym -> gym.code(0, 0, 0, bad, 0));
+            Edges.outside("word of kind " + bad, line, gym -> gym.word(bad, 0));
+            Edges.outside("vector of kind " + bad, line, gym -> gym.vector(0, bad, 0));
+            Edges.outside("use of kind " + bad, line, gym -> gym.use(0, bad, 0, NUMBER, 0));
+            Edges.outside("use of second kind " + bad, line, gym -> gym.use(0, NUMBER, 0, bad, 0));
         }
         for (int bad : new int[] {-1, 65536, Integer.MIN_VALUE}) {
             for (int kind : new int[] {NUMBER, FIRST, SECOND}) {
-                Check.outside(gym, "code with " + bad, () -> gym.code(0, 0, 0, kind, bad));
-                Check.outside(gym, "word with " + bad, () -> gym.word(kind, bad));
-                Check.outside(gym, "vector with " + bad, () -> gym.vector(0, kind, bad));
-                Check.outside(gym, "use with " + bad, () -> gym.use(0, kind, bad, NUMBER, 0));
-                Check.outside(gym, "use with second " + bad, () -> gym.use(0, NUMBER, 0, kind, bad));
+                Edges.outside("code with " + bad, line, gym -> gym.code(0, 0, 0, kind, bad));
+                Edges.outside("word with " + bad, line, gym -> gym.word(kind, bad));
+                Edges.outside("vector with " + bad, line, gym -> gym.vector(0, kind, bad));
+                Edges.outside("use with " + bad, line, gym -> gym.use(0, kind, bad, NUMBER, 0));
+                Edges.outside("use with second " + bad, line, gym -> gym.use(0, NUMBER, 0, kind, bad));
             }
         }
-        Check.outside(gym, "space 0", () -> gym.space(0));
-        Check.outside(gym, "space 33", () -> gym.space(33));
-        Check.outside(gym, "macro -1", () -> gym.macro(-1));
-        Check.outside(gym, "macro 5", () -> gym.macro(5));
-        Check.outside(gym, "use -1", () -> gym.use(-1, NUMBER, 0, NUMBER, 0));
-        Check.outside(gym, "use 5", () -> gym.use(5, NUMBER, 0, NUMBER, 0));
-        Check.due("lines added", 1, gym.lines());
+        Edges.outside("space 0", line, gym -> gym.space(0));
+        Edges.outside("space 33", line, gym -> gym.space(33));
+        Edges.outside("macro -1", line, gym -> gym.macro(-1));
+        Edges.outside("macro 5", line, gym -> gym.macro(5));
+        Edges.outside("use -1", line, gym -> gym.use(-1, NUMBER, 0, NUMBER, 0));
+        Edges.outside("use 5", line, gym -> gym.use(5, NUMBER, 0, NUMBER, 0));
+    }
+
+    private static KernelGym oneLine() {
+        KernelGym gym = new KernelGym();
+        gym.word(NUMBER, 5);
+        return gym;
     }
 
     private static void mostLines() {
@@ -113,23 +117,23 @@ public final class SourceTest {
         for (int i = 1; i <= 100; i++) {
             Check.due("line", i, gym.section(0));
         }
-        Check.untimely(gym, "section behind 100 lines", () -> gym.section(0));
-        Check.untimely(gym, "label behind 100 lines", () -> gym.label(0));
-        Check.untimely(gym, "code behind 100 lines", () -> gym.code(0, 0, 0, NUMBER, 0));
-        Check.untimely(gym, "word behind 100 lines", () -> gym.word(NUMBER, 0));
-        Check.untimely(gym, "space behind 100 lines", () -> gym.space(1));
-        Check.untimely(gym, "vector behind 100 lines", () -> gym.vector(0, NUMBER, 0));
-        Check.untimely(gym, "macro behind 100 lines", () -> gym.macro(0));
-        Check.untimely(gym, "endMacro behind 100 lines", () -> gym.endMacro());
-        Check.untimely(gym, "use behind 100 lines", () -> gym.use(0, NUMBER, 0, NUMBER, 0));
-        Check.outside(gym, "the range is told first", () -> gym.section(2));
-        Check.outside(gym, "the label's range", () -> gym.label(20));
-        Check.outside(gym, "the code's range", () -> gym.code(0, 0, 0, LABEL, 20));
-        Check.outside(gym, "the word's range", () -> gym.word(4, 0));
-        Check.outside(gym, "the space's range", () -> gym.space(0));
-        Check.outside(gym, "the vector's range", () -> gym.vector(2, NUMBER, 0));
-        Check.outside(gym, "the macro's range", () -> gym.macro(5));
-        Check.outside(gym, "the use's range", () -> gym.use(0, NUMBER, 0, NUMBER, 65536));
+        Edges.untimely("section behind 100 lines", Edges::lines100, full -> full.section(0));
+        Edges.untimely("label behind 100 lines", Edges::lines100, full -> full.label(0));
+        Edges.untimely("code behind 100 lines", Edges::lines100, full -> full.code(0, 0, 0, NUMBER, 0));
+        Edges.untimely("word behind 100 lines", Edges::lines100, full -> full.word(NUMBER, 0));
+        Edges.untimely("space behind 100 lines", Edges::lines100, full -> full.space(1));
+        Edges.untimely("vector behind 100 lines", Edges::lines100, full -> full.vector(0, NUMBER, 0));
+        Edges.untimely("macro behind 100 lines", Edges::lines100, full -> full.macro(0));
+        Edges.untimely("endMacro behind 100 lines", Edges::lines100, full -> full.endMacro());
+        Edges.untimely("use behind 100 lines", Edges::lines100, full -> full.use(0, NUMBER, 0, NUMBER, 0));
+        Edges.outside("the range is told first", Edges::lines100, full -> full.section(2));
+        Edges.outside("the label's range", Edges::lines100, full -> full.label(20));
+        Edges.outside("the code's range", Edges::lines100, full -> full.code(0, 0, 0, LABEL, 20));
+        Edges.outside("the word's range", Edges::lines100, full -> full.word(4, 0));
+        Edges.outside("the space's range", Edges::lines100, full -> full.space(0));
+        Edges.outside("the vector's range", Edges::lines100, full -> full.vector(2, NUMBER, 0));
+        Edges.outside("the macro's range", Edges::lines100, full -> full.macro(5));
+        Edges.outside("the use's range", Edges::lines100, full -> full.use(0, NUMBER, 0, NUMBER, 65536));
         Check.due("assemble 100 lines", 0, gym.assemble());
         Check.due("clear of 100 lines", 100, gym.clear());
         Check.due("the next line", 1, gym.section(0));

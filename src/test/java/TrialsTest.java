@@ -50,12 +50,20 @@ public final class TrialsTest {
     }
 
     private static void addTest() {
-        KernelGym gym = new KernelGym();
         int[][] bad = {{0, 0, 1, 0}, {501, 0, 1, 0}, {-1, 0, 1, 0}, {1, -1, 1, 0}, {1, 101, 1, 0}, {1, 0, 0, 0},
             {1, 0, 21, 0}, {1, 0, 1, -1}, {1, 0, 1, 501}};
         for (int[] row : bad) {
-            Check.outside(gym, "addTest", () -> gym.addTest(row[0], row[1], row[2], row[3]));
+            Edges.outside("addTest", KernelGym::new, gym -> gym.addTest(row[0], row[1], row[2], row[3]));
+            Edges.outside("a sixth out of range", TrialsTest::fiveTests,
+                gym -> gym.addTest(row[0], row[1], row[2], row[3]));
         }
+        KernelGym gym = fiveTests();
+        Check.untimely(gym, "a sixth", () -> gym.addTest(1, 0, 1, 1));
+        Check.due("the draft stays", 2, gym.testKey(4));
+    }
+
+    private static KernelGym fiveTests() {
+        KernelGym gym = new KernelGym();
         Check.due("no tests", 0, gym.tests());
         Check.due("the least test", 0, gym.addTest(1, 0, 1, 0));
         Check.due("the most test", 1, gym.addTest(500, 100, 20, 500));
@@ -64,11 +72,7 @@ public final class TrialsTest {
         Check.due("a fifth", 4, gym.addTest(1, 0, 1, 1));
         Check.due("five tests", 5, gym.tests());
         gym.testKey(4);
-        Check.untimely(gym, "a sixth", () -> gym.addTest(1, 0, 1, 1));
-        for (int[] row : bad) {
-            Check.outside(gym, "a sixth out of range", () -> gym.addTest(row[0], row[1], row[2], row[3]));
-        }
-        Check.due("the draft stays", 2, gym.testKey(4));
+        return gym;
     }
 
     private static void resultOf() {
