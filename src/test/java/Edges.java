@@ -127,6 +127,10 @@ final class Edges {
 
     private static void debug(List<String> trace, KernelGym gym) {
         note(trace, "press", () -> gym.press(77));
+        for (int i = 0; i < 3; i++) {
+            note(trace, "step", () -> gym.step(6));
+            note(trace, "sum", () -> gym.sum());
+        }
         note(trace, "back", () -> gym.back(200));
         note(trace, "sum", () -> gym.sum());
         for (int i = 0; i < 4; i++) {

@@ -6,6 +6,8 @@ public final class EdgesOfDebuggerTest {
     public static void main(String[] args) {
         Check.about("DEBUGGER");
         stepsBack();
+        stepsBackFromLater();
+        stepsBackOverFlags();
         stepsBackOverKeys();
         stepsBackOver200();
         whatStays();
@@ -67,6 +69,44 @@ public final class EdgesOfDebuggerTest {
         KernelGym faulted = Edges.faulted();
         Check.due("the step that fails", 1, faulted.back(1));
         Check.due("it runs ahead of that", KernelGym.RUNS, faulted.state());
+    }
+
+    /** Back from step 70, behind file calls of one, three and two blocks, to each step, also in these calls. */
+    private static void stepsBackFromLater() {
+        for (int to = 0; to < 70; to++) {
+            KernelGym gym = busy(70);
+            gym.back(70 - to);
+            Check.same("all behind " + to + " steps, from 70", Edges.traceOf(busy(to)), Edges.traceOf(gym));
+        }
+    }
+
+    /** A machine that sets and clears each flag, register and what else a step may change. */
+    private static KernelGym changing(int steps) {
+        KernelGym gym = new KernelGym();
+        gym.vector(0, NUMBER, 50);
+        gym.vector(1, NUMBER, 50);
+        Check.code(gym, 4, 0, 0, 0, 5, 1, 1, 1, 4, 1, 1, 2, 6, 2, 1, 3, 11, 2, 2, 0, 5, 3, 3, 65535, 23, 0, 0, 4,
+            19, 0, 0, 0, 1, 3, 0, 9, 20, 0, 0, 0, 22, 0, 0, 0, 19, 0, 0, 0, 17, 0, 1, 4, 3, 1, 1, 70, 3, 2, 2, 255,
+            15, 0, 0, 44, 20, 0, 0, 0, 0, 0, 0, 0, 25, 1, 0, 5, 23, 0, 0, 0, 16, 0, 0, 0, 21, 0, 0, 0);
+        gym.assemble();
+        gym.start();
+        gym.press(3);
+        stepAll(gym, steps);
+        return gym;
+    }
+
+    private static void stepsBackOverFlags() {
+        int end = changing(100).steps();
+        Check.due("it halts", KernelGym.HALTED, changing(100).state());
+        for (int steps = 1; steps <= end; steps++) {
+            for (int to = 0; to < steps; to++) {
+                KernelGym gym = changing(steps);
+                gym.back(steps - to);
+                Check.due("flags behind " + to, changing(to).flags(), gym.flags());
+                Check.same("all behind " + to + " steps, from " + steps, Edges.traceOf(changing(to)),
+                    Edges.traceOf(gym));
+            }
+        }
     }
 
     private static KernelGym pressedAt(int steps, int more, int back) {
@@ -383,6 +423,24 @@ public final class EdgesOfDebuggerTest {
         KernelGym first = looping(0);
         first.press(1);
         Check.due("a key behind no steps", first.sum(), first.sumAnew(0));
+        KernelGym reads = Check.started(24, 0, 0, 0, 25, 1, 0, 0, 12, 0, 0, 8);
+        for (int key = 1; key <= 20; key++) {
+            reads.step(1 + key % 3);
+            reads.press(1000 + key);
+            Check.due("the last of " + key + " keys has come", reads.sum(), reads.sumAnew(reads.steps()));
+        }
+        reads.step(60);
+        Check.due("twenty keys are read", 1020, reads.tapeAt(reads.tape() - 1 - keysMissing(reads)));
+        Check.due("twenty keys are read anew", reads.sum(), reads.sumAnew(reads.steps()));
+    }
+
+    /** How many words at the end of the tape tell that there was no key. */
+    private static int keysMissing(KernelGym gym) {
+        int missing = 0;
+        while (gym.tapeAt(gym.tape() - 1 - missing) == 65535) {
+            missing++;
+        }
+        return missing;
     }
 
     private static void sumAnewFromStart() {

@@ -534,10 +534,18 @@ public final class EdgesOfFilesTest {
         gym.step(5);
         Check.due("three blocks and the head", 4, crashAndStart(gym));
         Check.due("nothing more", 0, crashAndStart(gym));
+        block(gym, "the log's first block stays", 1, 4095);
         block(gym, "the log's third block stays", 3, 65535);
         call(gym, REMOVE, 1, 0, 0);
         Check.due("nothing is mended behind another call", 0, crashAndStart(gym));
         Check.due("the file is removed", 2, gym.files());
+        begin(gym, APPEND, 3, 0, 0, APPEND, 2, 0, 0, RENAME, 2, 3, 0);
+        gym.step(4 + 4 + 6 + 4 + 4);
+        Check.due("a head of three blocks", 3, gym.disk(0, 0));
+        crashAndStart(gym);
+        begin(gym, MAKE, 9, 0, 0);
+        gym.step(6);
+        block(gym, "a head of one block behind that", 0, 1, 5, 0, 0, 1 + 5 + 9 + 3 + 4 + 8);
     }
 
     private static void wholeOnTheWay() {

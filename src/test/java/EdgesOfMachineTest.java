@@ -527,6 +527,13 @@ public final class EdgesOfMachineTest {
         }
         gym.step(2);
         Check.due("no key behind 20", 65535, gym.register(0));
+        gym.crash();
+        gym.start();
+        gym.step(1);
+        Check.due("no key behind another start", 65535, gym.register(0));
+        gym.press(77);
+        gym.step(2);
+        Check.due("the first key behind another start", 77, gym.register(0));
         for (int d = 1; d < 4; d++) {
             KernelGym other = Check.started(24, d, 0, 0);
             other.press(7);

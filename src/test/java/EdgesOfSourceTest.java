@@ -11,7 +11,10 @@ public final class EdgesOfSourceTest {
         sections();
         vectors();
         macrosAtTheirEdges();
+        macrosFiveDeep();
         labelsOfOneUse();
+        labelsOfEachUse();
+        mostUses();
         linesGoneThrough();
         linesGoneThroughInMacros();
         mostWords();
@@ -195,6 +198,73 @@ public final class EdgesOfSourceTest {
         spaces(bad, 249);
         bad.endMacro();
         none(bad, "errors in a macro that is not used");
+    }
+
+    private static void macrosFiveDeep() {
+        KernelGym gym = new KernelGym();
+        gym.macro(0);
+        gym.word(FIRST, 1);
+        gym.word(SECOND, 1);
+        gym.endMacro();
+        for (int macro = 1; macro < 5; macro++) {
+            gym.macro(macro);
+            gym.use(macro - 1, SECOND, 1, FIRST, 10);
+            gym.endMacro();
+        }
+        gym.use(4, NUMBER, 100, NUMBER, 65530);
+        Check.due("the words of the innermost macro", 2, gym.assemble());
+        // Each use swaps the arguments: four times, by which each gets 1 and 10 twice; then each word adds 1.
+        image(gym, "arguments handed on", 100 + 22 + 1, 65530 + 22 + 1 - 65536);
+    }
+
+    /** The four labels of each of twenty uses, of which each one is at a place of its own. */
+    private static void labelsOfEachUse() {
+        KernelGym gym = new KernelGym();
+        gym.macro(0);
+        for (int label = 16; label <= 19; label++) {
+            gym.label(label);
+            gym.word(LABEL, label);
+        }
+        for (int label = 19; label >= 16; label--) {
+            gym.word(LABEL, label);
+        }
+        gym.endMacro();
+        for (int use = 0; use < 20; use++) {
+            plainUse(gym, 0);
+        }
+        Check.due("the words of twenty uses", 160, gym.assemble());
+        for (int use = 0; use < 20; use++) {
+            for (int i = 0; i < 4; i++) {
+                int at = 8 + 8 * use;
+                Check.due("a label of the use " + use, at + i, gym.image(at + i));
+                Check.due("and named once more", at + i, gym.image(at + 7 - i));
+            }
+        }
+    }
+
+    /** 292 uses of macros without lines, and one, the last, that has labels of its own and arguments. */
+    private static void mostUses() {
+        KernelGym gym = new KernelGym();
+        plainMacro(gym, 0, 0);
+        gym.macro(1);
+        for (int i = 0; i < 72; i++) {
+            plainUse(gym, 0);
+        }
+        gym.endMacro();
+        gym.macro(2);
+        gym.label(19);
+        gym.word(LABEL, 19);
+        gym.word(SECOND, 0);
+        gym.endMacro();
+        gym.section(1);
+        for (int i = 0; i < 4; i++) {
+            plainUse(gym, 1);
+        }
+        gym.use(2, NUMBER, 0, NUMBER, 77);
+        Check.due("300 lines gone through, most of which use a macro", 2, gym.assemble());
+        image(gym, "the last use", 8, 77, 0);
+        gym.label(0);
+        error(gym, "and one line more", KernelGym.TOO_LONG, gym.lines() - 1);
     }
 
     private static void labelsOfOneUse() {

@@ -180,6 +180,16 @@ public final class EdgesOfTestsTest {
         int[] waits = {22, 0, 0, 0, 0, 0, 0, 0};
         Check.due("a key is there ahead of the first step", KernelGym.PASSED, result(waits, six, NONE, 2, 0, 0));
         Check.due("no key is there", KernelGym.SLOW, result(waits, NONE, NONE, 500, 0, 0));
+        KernelGym gym = new KernelGym();
+        program(gym, waits);
+        for (int test = 0; test < 5; test++) {
+            if (test % 2 == 0) {
+                gym.testKey(test);
+            }
+            gym.addTest(500, 0, 1, 0);
+        }
+        Check.due("three of five tests have a key", 3, gym.submit());
+        Check.due("the key of the test ahead has not come", KernelGym.SLOW, gym.result(1));
         // The interrupt of keys goes to the address 0, where the vector for the timer is a halt.
         int[] taken = {19, 0, 0, 0, 12, 0, 0, 10};
         Check.due("an interrupt of keys", KernelGym.PASSED, result(taken, six, NONE, 3, 0, 0));
