@@ -17,6 +17,7 @@ public final class EdgesOfMachineTest {
         stackAtItsBottom();
         callsAtTheBottom();
         interruptAtTheBottom();
+        timerAtTheBottom();
         returns();
         interruptsInOrder();
         vectors();
@@ -357,6 +358,39 @@ public final class EdgesOfMachineTest {
         Check.due("the counter at 2", counter, three.memory(2));
         Check.due("the flags at 1", 0, three.memory(1));
         Check.due("the word at 0 stays", 30, three.memory(0));
+        Check.due("the counter becomes the word at 1, which is the flags by then", 0, three.counter());
+        KernelGym four = deep(4);
+        four.press(1);
+        four.step(1);
+        Check.due("the counter becomes the word at 1, which is the vector still", 40, four.counter());
+    }
+
+    /** The same loop as that of deep(), with a timer that is pending when the stack pointer is this. */
+    private static void timerAtTheBottom() {
+        for (int stack = 1; stack <= 4; stack++) {
+            KernelGym gym = new KernelGym();
+            gym.vector(0, NUMBER, 30);
+            gym.vector(1, NUMBER, 40);
+            Check.code(gym, 19, 0, 0, 0, 23, 0, 0, 497 - stack, 1, 1, 1, 65364, 17, 0, 0, 272, 12, 0, 1, 186);
+            gym.assemble();
+            gym.start();
+            for (int steps = 498 - stack; steps > 0; steps -= 100) {
+                gym.step(Math.min(steps, 100));
+            }
+            Check.due("the stack pointer ahead of it", stack, gym.stack());
+            Check.due("the timer ahead of it", ON + TIMER, gym.flags());
+            int counter = gym.counter();
+            gym.step(1);
+            if (stack < 2) {
+                Check.due("it stays pending, and interrupts on", ON + TIMER, gym.flags());
+                fault("an interrupt of the timer at " + stack, KernelGym.BAD_STACK, gym, counter);
+            } else {
+                Check.due("the counter that is pushed at " + stack, counter, gym.memory(stack - 1));
+                Check.due("the flags that are pushed at " + stack, 0, gym.memory(stack - 2));
+                Check.due("the counter becomes the word at 0 by then", stack == 2 ? 0 : 30, gym.counter());
+                Check.due("the timer is not pending behind it", 0, gym.flags());
+            }
+        }
     }
 
     private static void returns() {
